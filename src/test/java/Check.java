@@ -1,5 +1,7 @@
 /** Counts and prints the answers that are not due. */
 final class Check {
+    /** More of them would hide the first ones. */
+    private static final int MOST_PRINTED = 40;
     private static int wrong = 0;
     private static int asked = 0;
 
@@ -10,6 +12,8 @@ final class Check {
         asked++;
         if (got != want) {
             wrong++;
+        }
+        if (got != want && wrong <= MOST_PRINTED) {
             System.out.println("promise " + promise + ": " + call + " answered " + got + ", due is " + want);
         }
     }
